@@ -187,17 +187,28 @@ public final class LateStamps {
     }
 
     public int retry(int seat) {
-        return tried(RETRY, seat, NONE, NONE);
+        if (isRefused(RETRY, seat, NONE, NONE)) {
+            return NONE;
+        }
+        past.keep(world);
+        return world.redoAll(seat);
     }
 
     public int prune() {
         return tried(PRUNE, NONE, NONE, NONE);
     }
 
-    private int tried(int kind, int seat, int second, int third) {
+    private boolean isRefused(int kind, int seat, int second, int third) {
         int reason = world.refusal(kind, seat, second, third);
         if (within(reason, REASONS)) {
             refused[reason]++;
+            return true;
+        }
+        return false;
+    }
+
+    private int tried(int kind, int seat, int second, int third) {
+        if (isRefused(kind, seat, second, third)) {
             return NONE;
         }
         past.keep(world);
@@ -336,7 +347,8 @@ public final class LateStamps {
         if (what == 0) {
             return rowsOf(first.length, second.length);
         }
-        apart.mixUp(world, first, second);
+        apart.beginMix(world);
+        apart.mixFrom(first, second, 0, 0, 0);
         return what == 1 ? apart.goodRows() : apart.firstGoodRow();
     }
 
@@ -510,17 +522,22 @@ public final class LateStamps {
 
     /** What a TAPE tells as a STORE. */
     private static final class StoreText {
-        private int most;
-        private int pruning;
-        private int stride;
+        // MOST, how it is PRUNED, the STRIDE: by the places of their letters.
+        private static final int RULES = 3;
+        private static final int[] LETTERS = {'m', 'p', 't'};
+        private static final int[] LEAST = {2, 0, 2};
+        private static final int[] GREATEST = {9, 1, 20};
+        private static final int[] WITHOUT = {6, 0, 10};
+
+        private final int[] rules = new int[RULES];
+        private final int[] values = new int[KEYS_MOST];
         private int keys;
         private boolean hasRules;
-        private final int[] values = new int[KEYS_MOST];
 
         private void reset() {
-            most = 6;
-            pruning = 0;
-            stride = 10;
+            for (int i = 0; i < RULES; i++) {
+                rules[i] = WITHOUT[i];
+            }
             keys = 0;
             hasRules = false;
         }
@@ -563,46 +580,29 @@ public final class LateStamps {
         }
 
         private boolean hasRuleItems(Tape tape) {
-            boolean m = false;
-            boolean p = false;
-            boolean t = false;
-            for (int item = 0; item < 3; item++) {
-                int sign = tape.nextSign();
-                if (sign == 'm' && !m) {
-                    m = true;
-                } else if (sign == 'p' && !p) {
-                    p = true;
-                } else if (sign == 't' && !t) {
-                    t = true;
-                } else {
+            int told = 0;
+            for (int item = 0; item < RULES; item++) {
+                int rule = ruleBy(tape.nextSign());
+                if (!within(rule, RULES) || (told >> rule & 1) == 1) {
                     return true;
                 }
+                told |= 1 << rule;
                 tape.pass();
-                if (!hasRule(tape, sign)) {
+                if (!tape.hasNumber(LEAST[rule], GREATEST[rule])) {
                     return false;
                 }
+                rules[rule] = tape.number;
             }
             return true;
         }
 
-        private boolean hasRule(Tape tape, int letter) {
-            if (letter == 'm') {
-                if (!tape.hasNumber(2, World.VERSIONS_MOST)) {
-                    return false;
+        private static int ruleBy(int letter) {
+            for (int i = 0; i < RULES; i++) {
+                if (LETTERS[i] == letter) {
+                    return i;
                 }
-                most = tape.number;
-            } else if (letter == 'p') {
-                if (!tape.hasNumber(0, 1)) {
-                    return false;
-                }
-                pruning = tape.number;
-            } else {
-                if (!tape.hasNumber(2, 20)) {
-                    return false;
-                }
-                stride = tape.number;
             }
-            return true;
+            return NONE;
         }
 
         private boolean hasKeyItem(Tape tape) {
@@ -753,9 +753,9 @@ public final class LateStamps {
             for (int i = 0; i < SIZE; i++) {
                 cells[i] = 0;
             }
-            cells[MOST] = told.most;
-            cells[PRUNING] = told.pruning;
-            cells[STRIDE] = told.stride;
+            for (int rule = 0; rule < StoreText.RULES; rule++) {
+                cells[MOST + rule] = told.rules[rule];
+            }
             cells[KEYS] = told.keys;
             for (int key = 0; key < KEYS_MOST && key < told.keys; key++) {
                 int slot = key * VERSIONS_MOST;
@@ -949,7 +949,7 @@ public final class LateStamps {
                 && !isLate(key, cells[STAMP + seat]);
         }
 
-        // ---- ACTS, once nothing refuses them ----
+        // ---- ACTS, once nothing refuses them (RETRY goes by redoAll) ----
 
         private int act(int kind, int seat, int second, int third) {
             switch (kind) {
@@ -970,8 +970,6 @@ public final class LateStamps {
                     return commitAt(seat);
                 case ABORT:
                     return fallWithAll(seat);
-                case RETRY:
-                    return redoAll(seat);
                 case PRUNE:
                     return pruneAll();
                 default:
@@ -1061,7 +1059,7 @@ public final class LateStamps {
             for (int i = 0; i < VERSIONS_MOST && i < cells[VERSIONS + key]; i++) {
                 int between = cells[MARK + from + i];
                 int owner = cells[OWNER + from + i];
-                if (between > mark && between < stamp && within(owner, SEATS)) {
+                if (between > mark && between < stamp && owner >= 0 && owner < SEATS) {
                     cells[DOOMED + owner] = 1;
                 }
             }
@@ -1146,6 +1144,9 @@ public final class LateStamps {
                     fallWithAll(next);
                 } else {
                     makeSure(next);
+                    if (cells[PRUNING] == 1) {
+                        pruneAll();
+                    }
                 }
                 next = lowestReady();
             }
@@ -1172,9 +1173,6 @@ public final class LateStamps {
                 cells[DEPENDS + other] &= ~(1 << seat);
             }
             note(IS_SURE, seat, cells[STAMP + seat]);
-            if (cells[PRUNING] == 1) {
-                pruneAll();
-            }
         }
 
         /** One FALLS, and all behind it: how many. */
@@ -1275,8 +1273,9 @@ public final class LateStamps {
         /** The VERSION that is sure with the greatest MARK not above a STAMP; NONE: there is none. */
         private int lastSureSlot(int key, int stamp) {
             int from = key * VERSIONS_MOST;
-            for (int i = Math.min(cells[VERSIONS + key], VERSIONS_MOST) - 1; i >= 0; i--) {
-                if (cells[OWNER + from + i] == NONE && cells[MARK + from + i] <= stamp) {
+            for (int i = VERSIONS_MOST - 1; i >= 0; i--) {
+                boolean isSure = i < cells[VERSIONS + key] && cells[OWNER + from + i] == NONE;
+                if (isSure && cells[MARK + from + i] <= stamp) {
                     return from + i;
                 }
             }
@@ -1542,7 +1541,7 @@ public final class LateStamps {
             World copy = copyOf(now);
             int done = 0;
             for (int i = 0; i < told.length; i++) {
-                if (!goOn(copy, told, i)) {
+                if (!goOn(copy, copy, told, i)) {
                     break;
                 }
                 done++;
@@ -1554,25 +1553,28 @@ public final class LateStamps {
             return level(0).seatsIn(SURE);
         }
 
-        private static boolean goOn(World copy, Script told, int i) {
+        /** The next world is as this one behind one STEP more; false: it can't be. */
+        private static boolean goOn(World here, World next, Script told, int i) {
             int kind = told.part(i, 0);
             int seat = told.part(i, 1);
             int second = told.part(i, 2);
             int third = told.part(i, 3);
-            if (copy.refusal(kind, seat, second, third) != NONE) {
+            if (here.refusal(kind, seat, second, third) != NONE) {
                 return false;
             }
-            copy.act(kind, seat, second, third);
+            if (next != here) {
+                next.become(here);
+            }
+            next.act(kind, seat, second, third);
             return true;
         }
 
         // ---- MIX ----
 
-        private void mixUp(World now, Script one, Script other) {
+        private void beginMix(World now) {
             rows = 0;
             firstRow = NONE;
             copyOf(now).cells[World.FELL] = 0;
-            mixFrom(one, other, 0, 0, 0);
         }
 
         private int goodRows() {
@@ -1594,18 +1596,14 @@ public final class LateStamps {
             if (depth >= DEEPEST) {
                 return;
             }
-            if (ofOne < one.length && stepsOn(depth, one, ofOne)) {
+            World here = level(depth);
+            World next = level(depth + 1);
+            if (ofOne < one.length && goOn(here, next, one, ofOne) && next.cells[World.FELL] == 0) {
                 mixFrom(one, other, ofOne + 1, ofOther, row);
             }
-            if (ofOther < other.length && stepsOn(depth, other, ofOther)) {
+            if (ofOther < other.length && goOn(here, next, other, ofOther) && next.cells[World.FELL] == 0) {
                 mixFrom(one, other, ofOne, ofOther + 1, row | 1 << depth);
             }
-        }
-
-        private boolean stepsOn(int depth, Script told, int i) {
-            World copy = level(depth + 1);
-            copy.become(level(depth));
-            return goOn(copy, told, i) && copy.cells[World.FELL] == 0;
         }
 
         // ---- ODDS ----

@@ -211,6 +211,12 @@ public final class PromiseTest {
         fault(0, "k;k;k;k;k;k;k", 12);
         fault(0, "k;k;k;s;k;k;k;k", 14);
         fault(0, "s;k;k;k;k;k;k;s", 14);
+        fault(0, "s;k;k;k;k;k;k; k", 15);
+        fault(0, "s;k;k;k;k;k;k;", 14);
+        fault(0, "k;k;k;k;k;kv7;s", NONE);
+        fault(0, "kv1 1", 4);
+        fault(0, "sp2 1;k", 2);
+        fault(0, "st21 ;k", 3);
         fault(0, "sm;k", 2);
         fault(0, "sm", 2);
         fault(0, "sm1", 2);
@@ -318,6 +324,10 @@ public final class PromiseTest {
         due("status stays", x.status(0), 1);
         versionIs(x, 0, 0, 0, 8, 0, NONE);
         due("versions(1)", x.versions(1), NONE);
+        tell(x, "k", 0);
+        versionIs(x, 0, 0, 0, 0, 0, NONE);
+        tell(x, "k;k;k;k;k;kv7", 0);
+        versionIs(x, 5, 0, 0, 7, 0, NONE);
         due("the rules are told anew", x.rule(0), 6);
     }
 
@@ -977,6 +987,7 @@ public final class PromiseTest {
         due("years(-1)", x.years(-1, 1), NONE);
         statusIs(x, 0, 0, 0, 0);
         due("no ACT", x.count(5), 0);
+        due("one year, by a seed that opens", x.years(1, seedThatOpens()), 2);
         for (long seed = -3; seed < 12; seed++) {
             LateStamps byHand = store("k;k;k;st2");
             drawn(byHand, 40, seed, 3);
@@ -986,6 +997,11 @@ public final class PromiseTest {
             same(x, byHand);
         }
         statusIs(x, 0, 0, 0, 0);
+    }
+
+    private static long seedThatOpens() {
+        for (long seed = 0; seed < 1000; seed++) if (draw(new long[] {seed}, 8) == 0) return seed;
+        return 0;
     }
 
     /** YEARS, told by hand. */
@@ -1213,6 +1229,11 @@ public final class PromiseTest {
         due("falls(1)", x.falls(1), 2 + 8);
         x.commit(0);
         due("SURE", x.falls(0), NONE);
+        x.open(0, 1);
+        x.read(0, 2);
+        due("the lowest SEAT, too", x.falls(2), 1 + 4 + 8);
+        x.commit(0);
+        due("sures", x.sures(2), 1 + 4);
     }
 
     private static void sures() {
@@ -1469,6 +1490,7 @@ public final class PromiseTest {
         due("a third, cut", x.shares(0, 100), 33);
         due("shares(0, 0)", x.shares(0, 0), 0);
         due("shares(0, 999)", x.shares(0, 999), 333);
+        due("all of one", store("k").shares(0, 7), 7);
         due("shares(0, 1000)", x.shares(0, 1000), NONE);
         due("shares(0, -1)", x.shares(0, -1), NONE);
         due("shares(3, 1)", x.shares(3, 1), NONE);
@@ -1485,6 +1507,9 @@ public final class PromiseTest {
         for (int what = 0; what < 14; what++) due("all(" + what + ")", x.all(what), fresh[what]);
         due("all(14)", x.all(14), HIDDEN);
         due("all(-1)", x.all(-1), HIDDEN);
+        x.open(3, 0);
+        due("WORST of one alone", x.all(8), 3);
+        due("CHAIN of one alone", x.all(9), 1);
         x = chain();
         x.openAt(7, 0, 5);
         int[] then = {0x87, 24, 0, 0, 0, 7, 7, 0, 0, 3, 0, 50, 0, 6};
