@@ -519,12 +519,15 @@ public final class PromiseTest {
         due("nothing else", x.all(11), 28);
     }
 
+    /** Eight at SEAT 0 a call: an object has 512 calls alone. */
+    private static void eightFallAt(LateStamps x, int times) {
+        int script = tell(x, "o00;a0;o00;a0;o00;a0;o00;a0;o00;a0;o00;a0;o00;a0;o00;a0", 1);
+        for (int i = 0; i < times; i++) x.perform(script);
+    }
+
     private static void openAtTheClocksEnd() {
         LateStamps x = store("k;st20");
-        for (int i = 0; i < 499; i++) {
-            x.open(0, 0);
-            x.abort(0);
-        }
+        eightFallAt(x, 63);
         due("clock", x.all(11), 9980);
         due("10,000 is too much", x.open(0, 0), NONE);
         due("nor retry", x.retry(0), NONE);
@@ -534,10 +537,7 @@ public final class PromiseTest {
         due("taken is first", x.open(1, 0), NONE);
         statusIs(x, 0, 0, 1, 2);
         x = store("k;st11");
-        for (int i = 0; i < 909; i++) {
-            x.open(0, 0);
-            x.abort(0);
-        }
+        eightFallAt(x, 114);
         due("9,999 itself is not too much", x.all(11), 9999);
         due("open", x.open(0, 0), NONE);
     }
