@@ -682,6 +682,23 @@ public final class ActBoundsTest {
         Kit.due("another KEY's SEEN is nothing", x.write(0, 0, 1), 1);
     }
 
+    @Kit.Sentence(promise = 0, says = "it is LATE, if some VERSION of the KEY with a MARK not above its STAMP has a SEEN above its STAMP: then it FALLS.")
+    private static void theNinthVersionOfTheKeyAheadIsNothing() {
+        LateStamps x = Kit.store("sm9;k;k");
+        eight(x, 1);
+        for (int seat = 0; seat < 8; seat++) x.write(seat, 0, seat);
+        x.commit(0);
+        x.commit(1);
+        x.open(0, 1);
+        Kit.due("the ninth", x.read(0, 0), 7);
+        Kit.versionIs(x, 0, 8, 80, 7, 90, 7);
+        x.openAt(1, 0, 85);
+        Kit.due("SINCE", x.since(1, 0) * 100 + x.since(1, 1), 191);
+        Kit.due("read", x.read(1, 1), 0);
+        Kit.due("none of another KEY is DOOMED", x.all(4), 0);
+        Kit.due("nor is one LATE by it", x.write(1, 1, 5), 1);
+    }
+
     @Kit.Sentence(promise = 15, says = "WRITE: 1 a VERSION more, 0 its own has another VALUE (or the same), -2 it is LATE (it FALLS).")
     private static void writeAnswersOneZeroOrMinusTwo() {
         LateStamps x = Kit.store("k");
@@ -1341,36 +1358,50 @@ public final class ActBoundsTest {
 
     @Kit.Sentence(promise = 22, says = "The latest ACT is UNDONE: how many still can be. NONE: none.")
     private static void eachSortOfActIsUndoneWhole() {
-        LateStamps x = oneOfEach();
-        x.open(4, 0);
-        undone(x, "open", x.count(5), () -> x.open(5, 1));
-        undone(x, "open at one SURE", x.count(5), () -> x.open(2, 1));
-        undone(x, "openAt", x.count(5), () -> x.openAt(5, 1, 13));
-        undone(x, "read", x.count(5), () -> x.read(4, 0));
-        undone(x, "write", x.count(5), () -> x.write(4, 0, 1));
-        undone(x, "write its own", x.count(5), () -> x.write(0, 1, 8));
-        undone(x, "write, LATE", x.count(5), () -> x.write(0, 0, 8));
-        undone(x, "abort", x.count(5), () -> x.abort(0));
+        undone("open", x -> x.open(5, 1));
+        undone("open at one SURE", x -> x.open(2, 1));
+        undone("openAt", x -> x.openAt(5, 1, 13));
+        undone("read", x -> x.read(4, 0));
+        undone("write", x -> x.write(4, 0, 1));
+        undone("write, LATE", x -> x.write(0, 0, 8));
+        undone("commit with those behind it", x -> x.commit(0));
+        undone("abort", x -> x.abort(0));
+        undone("retry", x -> x.retry(3));
+        undone("prune", x -> x.prune());
     }
 
     @Kit.Sentence(promise = 22, says = "The latest ACT is UNDONE: how many still can be. NONE: none.")
-    private static void commitRetryAndPruneAreUndoneWhole() {
+    private static void whatAnActBringsWithItIsUndoneToo() {
         LateStamps x = oneOfEach();
-        undone(x, "commit with those behind it", x.count(5), () -> x.commit(0));
-        undone(x, "retry", x.count(5), () -> x.retry(3));
-        undone(x, "prune", x.count(5), () -> x.prune());
         x.open(4, 0);
         x.read(4, 0);
-        undone(x, "commit of one DOOMED", x.count(5), () -> x.commit(0));
-        LateStamps y = Kit.store("sp1;k");
-        y.open(0, 0);
-        y.write(0, 0, 3);
-        undone(y, "commit with its PRUNING", y.count(5), () -> y.commit(0));
+        undone("commit of one DOOMED", x, y -> y.commit(0));
+        LateStamps pruned = Kit.store("sp1;k");
+        pruned.open(0, 0);
+        pruned.write(0, 0, 3);
+        undone("commit with its PRUNING", pruned, y -> y.commit(0));
+        LateStamps again = oneOfEach();
+        again.write(0, 1, 3);
+        undone("write its own", again, y -> y.write(0, 1, 4));
+        LateStamps redone = oneOfEach();
+        redone.abort(0);
+        undone("retry with its DEEDS", redone, y -> y.retry(1));
     }
 
-    private static void undone(LateStamps x, String act, int before, Kit.Call call) {
+    private interface Act {
+        int on(LateStamps x);
+    }
+
+    private static void undone(String act, Act call) {
+        LateStamps x = oneOfEach();
+        x.open(4, 0);
+        undone(act, x, call);
+    }
+
+    private static void undone(String act, LateStamps x, Act call) {
+        int before = x.count(5);
         String was = Kit.look(x);
-        call.answer();
+        call.on(x);
         Kit.due(act + " is an ACT", x.count(5), before + 1);
         Kit.due(act + " is UNDONE", x.undo(), before);
         Kit.due(act + ": all is as it was", Kit.look(x).equals(was), true);

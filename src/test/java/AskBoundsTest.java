@@ -83,11 +83,14 @@ public final class AskBoundsTest {
         Kit.leaves(x, 0, () -> x.would(1, 5, 0), () -> x.would(1, 5, 1), () -> x.would(0, 5, 1));
         Kit.leaves(x, 40, () -> x.would(3, 5, 0));
         x.read(1, 0);
-        Kit.leaves(x, 0, () -> x.would(1, 0, 1), () -> x.would(2, 0, 1));
-        Kit.leaves(x, 1, () -> x.would(0, 0, 1));
+        Kit.due("by its own STAMP", x.would(1, 0, 1), 0);
+        Kit.due("by a newer one", x.would(2, 0, 1), 0);
+        Kit.due("LATE", x.would(0, 0, 1), 1);
         x.read(2, 5);
-        Kit.leaves(x, 1, () -> x.would(0, 5, 1), () -> x.would(1, 5, 1));
-        Kit.leaves(x, 0, () -> x.would(2, 5, 1), () -> x.would(3, 5, 1));
+        Kit.due("LATE for what is its own", x.would(0, 5, 1), 1);
+        Kit.due("LATE between", x.would(1, 5, 1), 1);
+        Kit.due("who READ it", x.would(2, 5, 1), 0);
+        Kit.due("behind it", x.would(3, 5, 1), 0);
     }
 
     @Kit.Sentence(promise = 24, says = "WOULD: the MARK (0), whether it would be LATE (1).")
@@ -151,11 +154,11 @@ public final class AskBoundsTest {
         x.commit(0);
         x.openAt(0, 1, 15);
         x.read(0, 0);
-        Kit.leaves(x, 15, () -> x.since(0, 0));
-        Kit.leaves(x, 81 - 14 - 20 - 30, () -> x.since(0, 1));
+        Kit.due("from 15 on", x.since(0, 0), 15);
+        Kit.due("without 1 .. 14, too", x.since(0, 1), 81 - 14 - 20 - 30);
         x.read(7, 1);
-        Kit.leaves(x, 80, () -> x.since(1, 0));
-        Kit.leaves(x, 2, () -> x.since(1, 1));
+        Kit.due("80", x.since(1, 0), 80);
+        Kit.due("80, 81", x.since(1, 1), 2);
     }
 
     @Kit.Sentence(promise = 25, says = "SINCE: the STAMP (0; the CLOCK and 1 never is LATE), how many (1).")
